@@ -371,6 +371,7 @@ public final class WordRuns {
     // ---- SEEDS, unlike factors ----
 
     public int seed(int k, int what) {
+        unlike.countSeeds();
         if (k == NONE && what == 0) {
             return unlike.seeds();
         }
@@ -705,11 +706,11 @@ public final class WordRuns {
             top = 0;
             names = 0;
             fault = 0;
-            if (readNames() && readRow(0)) {
-                skipBlanks();
-                if (at < tapeSize) {
-                    fail(at, CANNOT_STAND);
-                }
+            for (int many = 0; many <= MOST_BYTES && fault == 0 && passLet(); many++) {
+                readName();
+            }
+            if (fault == 0 && readRow(0) && at < tapeSize) {
+                fail(at, CANNOT_STAND);
             }
             tapeSize = 0;
             if (fault == 0) {
@@ -721,40 +722,30 @@ public final class WordRuns {
             return fault;
         }
 
-        private boolean readNames() {
-            for (int many = 0; many <= MOST_BYTES; many++) {
-                skipBlanks();
-                int behind = wordEnd(at);
-                if (codeOf(at, behind) != LET) {
-                    return true;
-                }
-                at = behind;
-                if (!readName()) {
-                    return false;
-                }
-            }
-            return true;
+        private boolean passLet() {
+            skipBlanks();
+            int behind = wordEnd(at);
+            boolean let = codeOf(at, behind) == LET;
+            at = let ? behind : at;
+            return let;
         }
 
-        private boolean readName() {
+        private void readName() {
             skipBlanks();
             int first = at;
             int behind = wordEnd(first);
             int code = codeOf(first, behind);
-            if (!isName(code, behind - first)) {
-                return fail(first, CANNOT_STAND);
-            }
             int slot = slotOf(code);
-            if (slot >= MOST_NAMES) {
-                return fail(first, TOO_MANY);
+            if (!isName(code, behind - first)) {
+                fail(first, CANNOT_STAND);
+            } else if (slot >= MOST_NAMES) {
+                fail(first, TOO_MANY);
+            } else {
+                at = behind;
+                if (expect('=') && readRow(0) && expect(';')) {
+                    store(slot, code);
+                }
             }
-            at = behind;
-            top = 0;
-            if (!expect('=') || !readRow(0) || !expect(';')) {
-                return false;
-            }
-            store(slot, code);
-            return true;
         }
 
         private boolean isName(int code, int letters) {
@@ -1068,7 +1059,7 @@ public final class WordRuns {
             if (!ready) {
                 build();
             }
-            return rows[rowOf(high) + low];
+            return rows[(high * (high + 1) >> 1) + low];
         }
 
         /** The length of the longest PART from a place on that LIES at an earlier place, too. */
@@ -1082,22 +1073,24 @@ public final class WordRuns {
             return before[place];
         }
 
-        private static int rowOf(int high) {
-            return high * (high + 1) >> 1;
-        }
-
         private void build() {
             ready = true;
-            for (int high = word.size() - 1; high >= 0; high--) {
-                int letter = word.at(high);
-                int row = rowOf(high);
-                boolean last = high == word.size() - 1;
+            byte[] letters = word.letters;
+            int size = Math.min(word.size, MOST_LETTERS);
+            for (int high = size - 1; high >= 0; high--) {
+                int row = high * (high + 1) >> 1;
+                int rowBehind = row + high + 1;
+                boolean last = high == size - 1;
                 int most = 0;
                 for (int low = 0; low <= high; low++) {
-                    int behind = last ? 0 : rows[row + high + 1 + low + 1];
-                    int same = word.at(low) == letter ? behind + 1 : 0;
+                    int same = 0;
+                    if (letters[low] == letters[high]) {
+                        same = last ? 1 : rows[rowBehind + low + 1] + 1;
+                    }
                     rows[row + low] = (byte) same;
-                    most = low < high ? Math.max(most, same) : most;
+                    if (low < high && same > most) {
+                        most = same;
+                    }
                 }
                 before[high] = (byte) most;
             }
@@ -1502,11 +1495,10 @@ public final class WordRuns {
         }
 
         int seeds() {
-            countSeeds();
             return allSeeds;
         }
 
-        private void countSeeds() {
+        void countSeeds() {
             if (seedsCounted) {
                 return;
             }
@@ -1521,8 +1513,8 @@ public final class WordRuns {
             }
         }
 
+        /** Of the k-th of those that countSeeds() counted. */
         int seedAnswer(int k, int what) {
-            countSeeds();
             int left = k;
             for (int length = 1; length <= word.size(); length++) {
                 if (left < seedsOfLength[length]) {
