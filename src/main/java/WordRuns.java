@@ -1,4 +1,4 @@
-/** A word of at most 120 small letters, told by a text, changed by acts and asked for its runs, covers, seeds and more. */
+/** A word of at most 120 small letters, told by a text, changed by acts, asked for its runs, covers, seeds and more. */
 public final class WordRuns {
     public static final int NONE = -1;
 
@@ -1503,20 +1503,36 @@ public final class WordRuns {
                 return;
             }
             seedsCounted = true;
-            allSeeds = 0;
-            for (int length = 1; length <= word.size(); length++) {
+            for (int length = 0; length <= MOST_LETTERS; length++) {
                 seedsOfLength[length] = 0;
-                for (int i = 0; i <= word.size() - length; i++) {
-                    seedsOfLength[length] += isFirst(i, length) && isSeed(i, length) ? 1 : 0;
-                }
+            }
+            for (int i = 0; i < word.size(); i++) {
+                countSeedsFrom(i);
+            }
+            allSeeds = 0;
+            for (int length = 1; length <= word.size() && length <= MOST_LETTERS; length++) {
                 allSeeds += seedsOfLength[length];
+            }
+        }
+
+        /** As the length rises, so does the least that sticks out in coversAhead(): it is not looked for anew. */
+        private void countSeedsFrom(int i) {
+            int out = 1;
+            int most = Math.min(word.size() - i, MOST_LETTERS);
+            for (int length = Math.max(i, twins.earlier(i)) + 1; length <= most; length++) {
+                while (out <= length - i && twins.common(0, i + out) < length - out) {
+                    out++;
+                }
+                if ((i == 0 || out <= length - i) && coversBehind(i, length)) {
+                    seedsOfLength[length]++;
+                }
             }
         }
 
         /** Of the k-th of those that countSeeds() counted. */
         int seedAnswer(int k, int what) {
             int left = k;
-            for (int length = 1; length <= word.size(); length++) {
+            for (int length = 1; length <= word.size() && length <= MOST_LETTERS; length++) {
                 if (left < seedsOfLength[length]) {
                     return what == 0 ? length : seedBegin(length, left);
                 }
@@ -1528,7 +1544,7 @@ public final class WordRuns {
         private int seedBegin(int length, int k) {
             int left = k;
             for (int i = 0; i <= word.size() - length; i++) {
-                if (isFirst(i, length) && isSeed(i, length)) {
+                if (isSeed(i, length)) {
                     if (left == 0) {
                         return i;
                     }
@@ -1538,20 +1554,11 @@ public final class WordRuns {
             return NONE;
         }
 
-        /** For a word that first begins at i: what is ahead of i only ones that stick out there can cover. */
         private boolean isSeed(int i, int length) {
-            if (!coversAhead(i, length)) {
-                return false;
-            }
-            int reached = i;
-            for (int x = i; x < word.size() && x <= reached; x++) {
-                if (twins.common(i, x) >= Math.min(length, word.size() - x)) {
-                    reached = x + length;
-                }
-            }
-            return reached >= word.size();
+            return isFirst(i, length) && coversAhead(i, length) && coversBehind(i, length);
         }
 
+        /** The word first begins at i: what is ahead of i only one that sticks out there can cover. */
         private boolean coversAhead(int i, int length) {
             if (i == 0) {
                 return true;
@@ -1562,6 +1569,22 @@ public final class WordRuns {
                 }
             }
             return false;
+        }
+
+        /** From i on it always goes to the last place that leaves no gap. */
+        private boolean coversBehind(int i, int length) {
+            int x = i;
+            for (int steps = 0; steps <= word.size() && x + length < word.size(); steps++) {
+                int next = x + length;
+                while (next > x && twins.common(i, next) < Math.min(length, word.size() - next)) {
+                    next--;
+                }
+                if (next == x) {
+                    return false;
+                }
+                x = next;
+            }
+            return true;
         }
 
         int absentAnswer(int what) {
@@ -1770,9 +1793,11 @@ public final class WordRuns {
         }
 
         private void findWithGap(Word word, int gap) {
+            byte[] letters = word.letters;
+            int end = Math.min(word.size, MOST_LETTERS);
             int from = 0;
-            for (int x = 0; x <= word.size() - gap; x++) {
-                if (x + gap < word.size() && word.at(x) == word.at(x + gap)) {
+            for (int x = 0; x <= end - gap; x++) {
+                if (x + gap < end && letters[x] == letters[x + gap]) {
                     continue;
                 }
                 if (x - from >= gap) {
