@@ -129,6 +129,10 @@ public final class ActsTest {
         Check.due("again of a full WORD", large.again(0, 1), REFUSED);
         Check.due("again of none in a full WORD", large.again(0, 121), NONE);
         holds(large, "abcdef".repeat(20), 1);
+        WordRuns late = Words.of("abcdef".repeat(19));
+        Check.due("again of a late PART beyond 120", late.again(100, 107), REFUSED);
+        Check.due("again of a late PART up to 120", late.again(100, 106), 120);
+        holds(late, "abcdef".repeat(19) + "efabcd", 1);
     }
 
     private static void checkRotate() {
@@ -271,12 +275,15 @@ public final class ActsTest {
             int j = random.nextInt(w.length() + 1);
             Check.due(w + " border", x.border(i, j, 0), slow.border(i, j, 0));
             Check.due(w + " factors", x.factors(2), slow.factors(2));
+            Check.due(w + " alike", x.alike(i, j), slow.alike(i, j));
             if (w.length() < 16) {
                 Check.due(w + " runs", x.run(NONE, 0), slow.run(NONE, 0));
                 Check.due(w + " seeds", x.seed(NONE, 0), slow.seed(NONE, 0));
                 Check.due(w + " ends", x.ends(i, 0), slow.ends(i, 0));
                 Check.due(w + " change", x.change(i, 1), slow.change(i, 1));
                 Check.due(w + " mirrors", x.mirrors(1), slow.mirrors(1));
+                Check.due(w + " all factors", x.factors(NONE), slow.factors(NONE));
+                Check.due(w + " phrases", x.phrase(j, 1), slow.phrase(j, 1));
             }
         }
 

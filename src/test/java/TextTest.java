@@ -101,6 +101,9 @@ public final class TextTest {
             told("'ab'morse" + n, "ab" + Words.morse(n));
         }
         told("morse 6 fib 8 fib 7 'a'", Words.morse(6) + Words.fib(8) + Words.fib(7) + "a");
+        told("morse 6 fib 9 fib 0", Words.morse(6) + Words.fib(9) + "b");
+        told("fib 9 fib 0 morse 6", Words.fib(9) + "b" + Words.morse(6));
+        told("60('a') rev(60('b'))", "a".repeat(60) + "b".repeat(60));
         told("1(1(1(1(1(1('a'))))))", "a");
         told("1(1(1(1(1(1('a'))))))1('b')rev(2('cd'))", "abdcdc");
         told("'" + "abcdefghij".repeat(12) + "'", "abcdefghij".repeat(12));
