@@ -1237,9 +1237,12 @@ public final class WordRuns {
                         continue;
                     }
                     tally.add(i, 2 * half);
-                    unlike += 2 * half > twins.earlier(i) ? 1 : 0;
-                    rooted += shapes.rootSize(i, i + half) == half ? 1 : 0;
                     cubes += same >= 2 * half ? 1 : 0;
+                    // a word that is a SQUARE counts once among the unlike ones: where it first begins
+                    if (2 * half > twins.earlier(i)) {
+                        unlike++;
+                        rooted += shapes.rootSize(i, i + half) == half ? 1 : 0;
+                    }
                 }
             }
             switch (what) {

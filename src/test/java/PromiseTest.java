@@ -142,7 +142,8 @@ public final class PromiseTest {
 
     private static void checkSquares() {
         WordRuns x = Words.of("aaaab");
-        int[] due = {4, 2, 3, 2, 4, 0};
+        // aa thrice, aaaa: only the half of aa is its own ROOT
+        int[] due = {4, 2, 1, 2, 4, 0};
         for (int what = 0; what < due.length; what++) {
             Check.due("squares(" + what + ")", x.squares(what), due[what]);
         }
@@ -152,6 +153,17 @@ public final class PromiseTest {
         int[] dueOfNone = {0, 0, 0, 0, 0, -2};
         for (int what = 0; what < dueOfNone.length; what++) {
             Check.due("squares(" + what + ") of none", none.squares(what), dueOfNone[what]);
+        }
+        WordRuns three = Words.of("ddd");
+        int[] dueOfThree = {2, 1, 1, 1, 2, 0};
+        for (int what = 0; what < dueOfThree.length; what++) {
+            Check.due("squares(" + what + ") of ddd", three.squares(what), dueOfThree[what]);
+        }
+        // aa at three PLACES, baabaa and aabaab at one each
+        WordRuns several = Words.of("baabaabcaa");
+        int[] dueOfSeveral = {5, 3, 3, 0, 6, 0};
+        for (int what = 0; what < dueOfSeveral.length; what++) {
+            Check.due("squares(" + what + ") of several", several.squares(what), dueOfSeveral[what]);
         }
         WordRuns late = Words.of("ccababdada");
         Check.due("squares(4)", late.squares(4), 4);
@@ -489,7 +501,7 @@ public final class PromiseTest {
         Check.due("run(0, 4)", x.run(0, 4), 120000);
         Check.due("squares(0)", x.squares(0), 3600);
         Check.due("squares(1)", x.squares(1), 60);
-        Check.due("squares(2)", x.squares(2), 119);
+        Check.due("squares(2)", x.squares(2), 1);
         Check.due("squares(3)", x.squares(3), 40 * 118 - 3 * 40 * 39 / 2);
         Check.due("border(0, 120, -1)", x.border(0, 120, -1), 119);
         Check.due("border(0, 120, 118)", x.border(0, 120, 118), 1);

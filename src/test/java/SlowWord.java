@@ -277,10 +277,13 @@ final class SlowWord {
                 if (s.length() % 2 == 0 && s.substring(0, half).equals(s.substring(half))) {
                     all.add(new int[] {i, s.length()});
                     words.add(s);
-                    rooted += rootOf(s.substring(half)).equals(s.substring(half)) ? 1 : 0;
                 }
                 cubes += s.length() % 3 == 0 && s.substring(0, s.length() / 3).repeat(3).equals(s) ? 1 : 0;
             }
+        }
+        for (String square : words) {
+            String half = square.substring(square.length() / 2);
+            rooted += rootOf(half).equals(half) ? 1 : 0;
         }
         switch (what) {
             case 0: return all.size();

@@ -8,6 +8,10 @@ public final class TextTest {
     private static final int NUMBER_WRONG = 2;
     private static final int TOO_MANY = 3;
     private static final int TOO_DEEP = 4;
+    private static final String[] PIECES = {"'a'", "'ab'", "2(", "3 (", "rev(", "rev", ")", ")", ")", "'", "(", ";",
+        "=", " ", "let ", "let a=", "let b = 'c';", "let xy='ab' ;", "let z='d';", "let q='z';", "let x=x'b';", "x",
+        "a ", "fib 3", "fib", "fib 11", "fib 21", "morse2", "morse 7", "60('ab')", "60('abc')", "61", "0(", "9", "1",
+        "A", "''", "1(rev(1(1(", "2(1(2(1(1(1('a'))))))", "let fib=", "let abcd=", "\n", "\u00ff"};
 
     private TextTest() {
     }
@@ -375,21 +379,35 @@ public final class TextTest {
         Check.holds("most grown TEXTS are in bounds", told > 2000);
     }
 
-    /** Any bytes: an answer within its bounds, a fault's place within the TEXT, and the same one again. */
+    /** TEXTS with a few signs put in, taken out, or of such pieces alone: the word or FAULT of a second reading. */
     private static void checkBrokenTexts() {
         Random random = new Random(6);
-        String signs = "'ab()1206;= x";
-        for (int round = 0; round < 20000; round++) {
-            StringBuilder text = new StringBuilder();
-            String[] grown = random.nextInt(2) == 0 ? new Grown(random).text() : null;
-            text.append(grown == null ? "" : grown[0]);
-            for (int changes = random.nextInt(grown == null ? 60 : 3); changes > 0; changes--) {
-                text.insert(random.nextInt(text.length() + 1), signs.charAt(random.nextInt(signs.length())));
+        int[] ofKind = new int[5];
+        for (int round = 0; round < 40000; round++) {
+            String[] grown = random.nextInt(3) > 0 ? new Grown(random).text() : null;
+            StringBuilder text = new StringBuilder(grown == null ? "" : grown[0]);
+            for (int changes = random.nextInt(grown == null ? 40 : 4); changes > 0; changes--) {
+                int place = random.nextInt(text.length() + 1);
+                if (grown != null && random.nextInt(3) == 0 && place < text.length()) {
+                    text.deleteCharAt(place);
+                } else {
+                    text.insert(grown == null ? text.length() : place, PIECES[random.nextInt(PIECES.length)]);
+                }
             }
             text.setLength(Math.min(300, text.length()));
-            int fault = Words.fault(text.toString());
-            boolean within = fault == 0 || fault % 8 >= 1 && fault % 8 <= 4 && fault / 8 <= text.length();
-            Check.holds("fault " + fault + " of " + text, within);
+            ofKind[checkRead(text.toString()) % 8]++;
         }
+        for (int kind = 0; kind < ofKind.length; kind++) {
+            Check.holds("TEXTS of kind " + kind + " came: " + ofKind[kind], ofKind[kind] > 100);
+        }
+    }
+
+    private static int checkRead(String text) {
+        int fault = SlowText.fault(text);
+        Check.due("FAULT of " + text, Words.fault(text), fault);
+        if (fault == 0) {
+            told(text, SlowText.word(text));
+        }
+        return fault;
     }
 }
