@@ -428,6 +428,10 @@ public final class PromiseTest {
         Check.due("change leaves the RUNS", y.run(-1, 0), 1);
         Check.due("of several the least", Words.of("q").change(0, 0), 0);
         Check.due("none at all", Words.of("q").change(0, 1), 0);
+        // each letter is somewhere else, too: b makes aabaab, all but it and a leave aa and aa alone
+        WordRuns all = Words.of("aaxaa" + "bcdefghijklmnopqrstuvwxyz");
+        Check.due("change with all letters elsewhere", all.change(2, 0), 1);
+        Check.due("RUNS then", all.change(2, 1), 3);
     }
 
     private static void checkAlikeAndCount() {

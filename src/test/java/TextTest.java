@@ -23,6 +23,7 @@ public final class TextTest {
         checkCannotStand();
         checkNumbers();
         checkTooMany();
+        checkFullRows();
         checkTooDeep();
         checkFirstFault();
         checkAfterFault();
@@ -240,6 +241,15 @@ public final class TextTest {
         faulty("let a='a';let b='b';let c='c';let d='d';let e", 44, TOO_MANY);
         faulty("let a='a';let b='b';let c='c';let d='d';let efgh='e';'a'", 44, CANNOT_STAND);
         faulty("let a='a';let b='b';let c='c';let d='d';let fib='e';'a'", 44, CANNOT_STAND);
+    }
+
+    /** Seven ROWS open at once, each of 120 letters: no letter of theirs may be lost. */
+    private static void checkFullRows() {
+        String ahead = "60('ab')0(".repeat(6);
+        String full = ahead + "'" + "xyz".repeat(40) + "'";
+        told(full + ")".repeat(6), "ab".repeat(60));
+        faulty(full + "'c'" + ")".repeat(6), full.length(), TOO_MANY);
+        faulty(full + " fib 0" + ")".repeat(6), full.length() + 1, TOO_MANY);
     }
 
     private static void checkTooDeep() {
