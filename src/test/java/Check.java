@@ -4,8 +4,14 @@ final class Check {
 
     private static int asked = 0;
     private static int wrong = 0;
+    private static String within = "";
 
     private Check() {
+    }
+
+    /** What comes now belongs to this test, whose name stands ahead of what is printed; "" to none. */
+    static void within(String test) {
+        within = test.isEmpty() ? "" : test + ": ";
     }
 
     static void due(String call, long got, long want) {
@@ -13,13 +19,17 @@ final class Check {
         if (got != want) {
             wrong++;
             if (wrong <= MOST_PRINTED) {
-                System.out.println(call + " answered " + got + ", due is " + want);
+                System.out.println(within + call + " answered " + got + ", due is " + want);
             }
         }
     }
 
     static void holds(String what, boolean so) {
         due(what, so ? 1 : 0, 1);
+    }
+
+    static int asked() {
+        return asked;
     }
 
     static void close(String test) {

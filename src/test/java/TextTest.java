@@ -4,10 +4,10 @@ import java.util.Random;
 
 /** Promises 2 to 4: the TAPE, the TEXTS that tell a WORD and the FAULT of each that tells none. */
 public final class TextTest {
-    private static final int CANNOT_STAND = 1;
-    private static final int NUMBER_WRONG = 2;
-    private static final int TOO_MANY = 3;
-    private static final int TOO_DEEP = 4;
+    private static final int CANNOT_STAND = Texts.CANNOT_STAND;
+    private static final int NUMBER_WRONG = Texts.NUMBER_WRONG;
+    private static final int TOO_MANY = Texts.TOO_MANY;
+    private static final int TOO_DEEP = Texts.TOO_DEEP;
     private static final String[] PIECES = {"'a'", "'ab'", "2(", "3 (", "rev(", "rev", ")", ")", ")", "'", "(", ";",
         "=", " ", "let ", "let a=", "let b = 'c';", "let xy='ab' ;", "let z='d';", "let q='z';", "let x=x'b';", "x",
         "a ", "fib 3", "fib", "fib 11", "fib 21", "morse2", "morse 7", "60('ab')", "60('abc')", "61", "0(", "9", "1",
@@ -34,17 +34,11 @@ public final class TextTest {
     }
 
     private static void told(String text, String word) {
-        WordRuns x = new WordRuns();
-        Check.due(text, Words.tell(x, text), word.length());
-        Check.holds(text + " tells " + word + ", not " + Words.read(x), Words.read(x).equals(word));
-        Check.due("bytes of the TAPE behind " + text, x.count(3), 0);
+        Texts.told(text, word);
     }
 
     private static void faulty(String text, int place, int kind) {
-        WordRuns x = new WordRuns();
-        Check.due(text, Words.tell(x, text), -2 - (8 * place + kind));
-        Check.due("letters behind " + text, x.count(0), 0);
-        Check.due("bytes of the TAPE behind " + text, x.count(3), 0);
+        Texts.faulty(text, place, kind);
     }
 
     private static void checkTape() {
