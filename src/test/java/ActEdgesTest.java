@@ -362,6 +362,14 @@ public final class ActEdgesTest {
         becomes("ab", "rotate(1)", x -> x.rotate(1), 2, "ba");
     }
 
+    // "Where NONE and another answer fit, it is NONE"
+    static void promise10NoneAheadOfNoneWould() {
+        becomes("aaa", "rotate(4)", x -> x.rotate(4), NONE, "aaa");
+        becomes("aaa", "rotate(-1)", x -> x.rotate(-1), NONE, "aaa");
+        nothingHappensFull("rotate(123)", x -> x.rotate(123), NONE);
+        nothingHappensFull("rotate(-3)", x -> x.rotate(-3), NONE);
+    }
+
     static void promise10IsAnAct() {
         Edges.isAct("rotate(1)", "abc", x -> x.rotate(1), 3, "bca");
     }

@@ -144,7 +144,7 @@ final class Edges {
         return story;
     }
 
-    /** The call is an ACT: one more can be UNDONE, and that brings the word back. */
+    /** The call is an ACT: one more can be UNDONE, ten at most, and that brings the word back. */
     static void isAct(String call, String before, ToIntFunction<WordRuns> act, int answer, String after) {
         WordRuns x = Words.of(before);
         Check.due(call, act.applyAsInt(x), answer);
@@ -153,6 +153,24 @@ final class Edges {
         Check.due("undo() behind " + call, x.undo(), 0);
         holds("undo() behind " + call, x, before);
         Check.due("a second undo() behind " + call, x.undo(), NONE);
+        isEleventhAct(call, before, act, answer);
+    }
+
+    private static void isEleventhAct(String call, String before, ToIntFunction<WordRuns> act, int answer) {
+        WordRuns x = Words.of(before);
+        boolean room = before.length() < 120;
+        int first = room ? 7 : x.letter(0);
+        for (int pair = 0; pair < 5; pair++) {
+            Check.holds("ahead of " + call, (room ? x.insert(0, first) : x.drop(0)) >= 0);
+            Check.holds("ahead of " + call, (room ? x.drop(0) : x.insert(0, first)) >= 0);
+        }
+        Check.due("ACTS ahead of " + call, x.count(2), 10);
+        Check.due(call + " behind ten ACTS", act.applyAsInt(x), answer);
+        Check.due("ACTS behind " + call + ", the eleventh", x.count(2), 10);
+        Check.due("undo() behind " + call + ", the eleventh", x.undo(), 9);
+        holds("undo() behind " + call + ", the eleventh", x, before);
+        Check.due("the next undo()", x.undo(), 8);
+        Check.due("letters then", x.count(0), before.length() + (room ? 1 : -1));
     }
 
     static void holds(String call, WordRuns x, String word) {

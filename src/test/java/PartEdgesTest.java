@@ -215,6 +215,14 @@ public final class PartEdgesTest {
         Check.due("what 1", x.root(0, 5, 1), 1);
     }
 
+    // of a later PART, too: its length is that of the PART
+    static void promise18OfALaterPart() {
+        Check.due("what 0 of aba", Words.of("xaba").root(1, 4, 0), 3);
+        Check.due("what 1 of aba", Words.of("xaba").root(1, 4, 1), 1);
+        Check.due("what 0 of abab", Words.of("xxabab").root(2, 6, 0), 2);
+        Check.due("what 1 of abab", Words.of("xxabab").root(2, 6, 1), 2);
+    }
+
     static void promise18TwiceAndTheShortest() {
         WordRuns x = Words.of("abababab");
         Check.due("what 0 of two", x.root(0, 4, 0), 2);
@@ -232,6 +240,9 @@ public final class PartEdgesTest {
         Check.due("the first such", Words.of("baba").root(0, 4, 2), 1);
         Check.due("the first such of like letters", Words.of("zzz").root(0, 3, 2), 0);
         Check.due("of it, not of the WORD", Words.of("ccba").root(1, 4, 2), 2);
+        Check.due("the first such of a later PART", Words.of("xaa").root(1, 3, 2), 0);
+        Check.due("what stands behind the PART is not its", Words.of("babazzzzz").root(0, 4, 2), 1);
+        Check.due("the rotation goes on with the first letter", Words.of("xabacz").root(1, 4, 2), 2);
     }
 
     static void promise18Of120Letters() {
@@ -445,6 +456,9 @@ public final class PartEdgesTest {
         Edges.row((y, k) -> y.cover(0, 5, k), x, new int[] {5}, REFUSED);
         Edges.row((y, k) -> y.cover(1, 6, k), x, new int[] {5}, REFUSED);
         Edges.row((y, k) -> y.cover(0, 6, k), x, new int[] {3, 6}, REFUSED);
+        Edges.row((y, k) -> y.cover(0, 4, k), Words.of("ababab"), new int[] {2, 4}, REFUSED);
+        Edges.row((y, k) -> y.cover(2, 4, k), Words.of("ababab"), new int[] {2}, REFUSED);
+        Edges.row((y, k) -> y.cover(1, 3, k), Words.of("aaaa"), new int[] {1, 2}, REFUSED);
     }
 
     // "NONE likewise"
@@ -564,6 +578,16 @@ public final class PartEdgesTest {
         Edges.row((x, k) -> x.ends(k, 0), Words.of("zay"), new int[] {1, 2, 0}, NONE);
     }
 
+    // they are those of the WORD that there is now
+    static void promise34BehindAnAct() {
+        WordRuns x = Words.of("cab");
+        Edges.row((y, k) -> y.ends(k, 0), x, new int[] {1, 2, 0}, NONE);
+        x.drop(0);
+        Edges.row((y, k) -> y.ends(k, 0), x, new int[] {0, 1}, NONE);
+        x.insert(2, 0);
+        Edges.row((y, k) -> y.ends(k, 0), x, new int[] {2, 0, 1}, NONE);
+    }
+
     static void promise34WithoutLetters() {
         Check.due("k 0", new WordRuns().ends(0, 0), NONE);
         Check.due("k 0", new WordRuns().ends(0, 1), NONE);
@@ -677,6 +701,14 @@ public final class PartEdgesTest {
         Check.due("a and z", Words.of("az").compare(0, 1, 1, 2), -1);
     }
 
+    // what stands behind a PART is not asked
+    static void promise38BehindTheParts() {
+        WordRuns x = Words.of("xacab");
+        Check.due("a and ab", x.compare(1, 2, 3, 5), -1);
+        Check.due("ab and a", x.compare(3, 5, 1, 2), 1);
+        Check.due("a and a", x.compare(1, 2, 3, 4), 0);
+    }
+
     static void promise38APartWithItself() {
         WordRuns x = Words.of("abc");
         Check.due("the same", x.compare(0, 3, 0, 3), 0);
@@ -718,6 +750,17 @@ public final class PartEdgesTest {
         Check.due("alike(2, 0)", x.alike(2, 0), 3);
         Check.due("alike(0, 4)", x.alike(0, 4), 1);
         Check.due("alike(4, 0)", x.alike(4, 0), 1);
+    }
+
+    // up to the last letter that there is now
+    static void promise45BehindAShorterAndALongerWord() {
+        WordRuns x = Words.of("aaaa");
+        Check.due("alike(0, 2)", x.alike(0, 2), 2);
+        x.drop(3);
+        Check.due("alike(0, 2) behind drop", x.alike(0, 2), 1);
+        Check.due("alike(0, 3) behind drop", x.alike(0, 3), NONE);
+        x.again(0, 2);
+        Check.due("alike(0, 2) behind again", x.alike(0, 2), 3);
     }
 
     static void promise45WithoutLetters() {

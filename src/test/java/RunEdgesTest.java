@@ -1,4 +1,4 @@
-/** The boundary cases of promises 21, 23, 24, 26, 27, 33, 43, 44: RUNS, SQUARES, powers, SEEDS, PHRASES and the like. */
+/** The boundary cases of promises 21, 23, 24, 26, 27, 33, 43, 44: RUNS, SQUARES, powers, SEEDS, PHRASES and so on. */
 public final class RunEdgesTest {
     private static final int NONE = Edges.NONE;
     private static final int REFUSED = Edges.REFUSED;
@@ -80,6 +80,7 @@ public final class RunEdgesTest {
     // "RUNS by i, then by p"
     static void promise21ByBeginThenByPeriod() {
         runs("aabaab", new int[] {0, 2, 1, 0, 2000}, new int[] {0, 6, 3, 0, 2000}, new int[] {3, 5, 1, 3, 2000});
+        runs("ababb", new int[] {0, 4, 2, 0, 2000}, new int[] {3, 5, 1, 3, 2000});
         runs("abbabbcc", new int[] {0, 6, 3, 0, 2000}, new int[] {1, 3, 1, 1, 2000}, new int[] {4, 6, 1, 4, 2000},
             new int[] {6, 8, 1, 6, 2000});
     }
@@ -176,7 +177,7 @@ public final class RunEdgesTest {
         Check.due("squares(-2)", Words.of("ab").squares(-2), NONE);
     }
 
-    // "a word that is a word twice" of "1 letter at least"
+    // a SQUARE is "a word twice", of "1 letter at least"
     static void promise23OneLetterTwice() {
         squares("aa", 1, 1, 1, 0, 2, 0);
         squares("baa", 1, 1, 1, 0, 2, 1);
@@ -199,6 +200,8 @@ public final class RunEdgesTest {
     static void promise23LikeOnesAndUnlikeWords() {
         squares("aabaa", 2, 1, 1, 0, 2, 0);
         squares("aabb", 2, 2, 2, 0, 2, 0);
+        // its half lies further ahead, too
+        squares("abxabab", 1, 1, 1, 0, 4, 3);
     }
 
     // "how many of them whose half is its own ROOT"
@@ -298,6 +301,9 @@ public final class RunEdgesTest {
     // "(each word once, where it begins first)"
     static void promise26EachWordOnce() {
         seeds("aaa", new int[] {1, 0}, new int[] {2, 0}, new int[] {3, 0});
+        // that begins first of those that are SEEDS
+        seeds("aabab", new int[] {3, 1}, new int[] {5, 0});
+        seeds("babbaa", new int[] {4, 1}, new int[] {6, 0});
     }
 
     // "k NONE, what 0: how many"

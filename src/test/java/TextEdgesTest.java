@@ -401,6 +401,7 @@ public final class TextEdgesTest {
         Check.due("not told in this one", Words.tell(x, "y"), -3);
         Check.due("four others", Words.tell(x, FOUR_NAMES + "d"), 1);
         Check.due("and four others", Words.tell(x, "let e='e';let f='f';let g='g';let h='h';h"), 1);
+        Check.due("the last of them alone", Words.tell(x, "let h='i';e"), -2 - (8 * 10 + CANNOT_STAND));
     }
 
     // ---- "NAME: 1 to 3 small letters, none of let, rev, fib; 4 NAMES at most" ----
@@ -468,6 +469,8 @@ public final class TextEdgesTest {
         faulty("revx('a')", 0, CANNOT_STAND);
         faulty("fibx", 0, CANNOT_STAND);
         faulty("let x='a';xx", 10, CANNOT_STAND);
+        faulty("let a='a';" + "a".repeat(6), 10, CANNOT_STAND);
+        faulty("let a='a';" + "a".repeat(290), 10, CANNOT_STAND);
         faulty("let x='a';xrev('a')", 10, CANNOT_STAND);
         told("let x='a';x x", "aa");
     }
@@ -566,6 +569,15 @@ public final class TextEdgesTest {
         told("'q'0(" + FULL_ROW + "rev(0(" + FULL_ROW + ")))", "q");
         faulty("'q'0(" + FULL_ROW + "'z')", 5 + FULL_ROW.length(), TOO_MANY);
         faulty("let x=" + FULL_ROW + "'z';'q'", 6 + FULL_ROW.length(), TOO_MANY);
+    }
+
+    // seven ROWS are open at most, and each may be full
+    static void promise04SevenFullRows() {
+        String inmost = (FULL_ROW + "0(").repeat(6) + "'" + "abc".repeat(40) + "'";
+        told(inmost + SIX_CLOSED, FULL_WORD);
+        faulty(inmost + "'q'" + SIX_CLOSED, inmost.length(), TOO_MANY);
+        faulty(inmost + "fib 2" + SIX_CLOSED, inmost.length(), TOO_MANY);
+        faulty(inmost + SIX_CLOSED + "'q'", inmost.length() + 6, TOO_MANY);
     }
 
     // "asked when the ITEM ends, so of an inner one first"

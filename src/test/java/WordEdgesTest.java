@@ -261,6 +261,7 @@ public final class WordEdgesTest {
         abel("abab", 1, 4, 0);
         abel("abaabb", 3, 4, 1);
         abel("abcbca", 2, 6, 0);
+        abel("bbaabbaa", 9, 8, 0);
     }
 
     static void promise35AllOfTheWord() {
