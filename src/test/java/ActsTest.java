@@ -247,6 +247,9 @@ public final class ActsTest {
 
     /** Random ACTS on one object, each beside the same one on Strings; few enough to stay within its 512 calls. */
     private static final class Walk {
+        // 12 calls a step at most, 20 more at each fifth one, 121 at the end
+        private static final int STEPS = 24;
+
         private final Random random;
         private final WordRuns x = new WordRuns();
         private final List<String> past = new ArrayList<>();
@@ -258,9 +261,9 @@ public final class ActsTest {
         }
 
         void go() {
-            for (int call = 0; call < 30; call++) {
+            for (int call = 0; call < STEPS; call++) {
                 step();
-                if (call % 5 == 4 && w.length() < 40) {
+                if (call % 5 == 4 && w.length() < 20) {
                     Check.holds("the WORD is " + w, Words.read(x).equals(w));
                 }
                 Check.due("ACTS", x.count(2), past.size());

@@ -264,6 +264,15 @@ public final class WordEdgesTest {
         abel("bbaabbaa", 9, 8, 0);
     }
 
+    // "letters a to z (0 to 25)": what one middle has seen of a or z does not count at the next one
+    static void promise35TheFirstAndTheLastLetter() {
+        abel("aza", 0, 0, REFUSED, NONE);
+        abel("zaz", 0, 0, REFUSED, NONE);
+        abel("azza", 2, 4, 0);
+        abel("zaaz", 2, 4, 0);
+        abel("aazzaza", 4, 4, 1);
+    }
+
     static void promise35AllOfTheWord() {
         abel("abccba", 3, 6, 0);
         abel("xabba", 2, 4, 1);
@@ -404,6 +413,13 @@ public final class WordEdgesTest {
     static void promise41TwoLettersAtLeast() {
         absent("q", 1, 2, 2);
         absent("ab", 3, 2, 2);
+    }
+
+    // "letters a to z (0 to 25)"
+    static void promise41TheFirstAndTheLastLetter() {
+        absent("za", 3, 2, 2);
+        absent("zaz", 3, 2, 3);
+        absent("abcdefghijklmnopqrstuvwxyz", 26 * 26 - 25, 2, 2);
     }
 
     // the longest one may be longer than the WORD by one letter

@@ -47,8 +47,10 @@ final class Words {
 
     static String read(WordRuns x) {
         StringBuilder word = new StringBuilder();
-        for (int place = 0; x.letter(place) >= 0; place++) {
-            word.append((char) ('a' + x.letter(place)));
+        int letter = x.letter(0);
+        while (letter >= 0) {
+            word.append((char) ('a' + letter));
+            letter = x.letter(word.length());
         }
         return word.toString();
     }
@@ -100,9 +102,9 @@ final class Words {
         return words;
     }
 
-    /** Any letters told apart by nothing but their order get a to z in that order. */
+    /** All letters moved up alike, up to z; those that would come beyond it are z. */
     static String spread(Random random, String word) {
-        int shift = random.nextInt(20);
+        int shift = random.nextInt(26);
         StringBuilder shifted = new StringBuilder();
         for (int place = 0; place < word.length(); place++) {
             shifted.append((char) Math.min('z', word.charAt(place) + shift));
