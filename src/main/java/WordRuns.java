@@ -1111,7 +1111,8 @@ public final class WordRuns {
 
         void add(int begin, int length) {
             many++;
-            if (length > longest || length == longest && begin < first) {
+            // those of one length are added in the order in which they begin, so the first one stays
+            if (length > longest) {
                 longest = length;
                 first = begin;
             }

@@ -81,7 +81,7 @@ public final class NowEdgesTest {
     /** What other questions leave behind must not count either. */
     private static void askTheRest(WordRuns x) {
         x.squares(0);
-        x.change(0, 0);
+        x.change(1, 0);
         x.closed(0);
         x.gapped(1, 0);
         x.seed(NONE, 0);
